@@ -249,7 +249,10 @@ public final class KernelDesk {
         sizes[to] = size;
     }
 
-    /** Taking the same letters out of cubes that all have them lessens each by the same number. */
+    /**
+     * Taking the same letters out of cubes that all have them lessens each by the same number, so
+     * the cubes stay different and in order.
+     */
     private void makeQuotientByCube(int to, int f, int cube) {
         int size = sizes[f];
         sizes[to] = 0;
@@ -261,7 +264,7 @@ public final class KernelDesk {
         }
     }
 
-    /** A cube of the quotient is in the quotient by g's first cube, so no others are looked at. */
+    /** What is in the quotients by all cubes of g is in that by the first one: no others are tried. */
     private void makeQuotient(int to, int f, int g) {
         int size = sizes[f];
         int divisor = cells[g * ROOM];
@@ -275,6 +278,7 @@ public final class KernelDesk {
         }
     }
 
+    /** This also keeps out every cube that has a letter of g: it is not in the quotient by that cube. */
     private boolean isInAllQuotients(int part, int f, int g) {
         int size = sizes[g];
         for (int i = 0; i < size; i++) {

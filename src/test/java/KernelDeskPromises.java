@@ -271,6 +271,12 @@ public final class KernelDeskPromises {
         fill(x, 1, A, A | B);
         due("8: cubes that share letters", x.divide(2, 0, 1), 1);
         dueCubes("8: cubes that share letters", x, 2, 0);
+        fill(x, 0, C, A | C, A | D, B | C, B | D);
+        fill(x, 1, A, B, E);
+        due("8: take from f", x.take(0, C), true);
+        due("8: take from g", x.take(1, E), true);
+        due("8: what was taken does not count", x.divide(2, 0, 1), 2);
+        dueCubes("8: what was taken does not count", x, 2, C, D);
     }
 
     private static void rest() {
@@ -301,6 +307,11 @@ public final class KernelDeskPromises {
         dueCubes("9: into f", x, 0, A | B, A | E, G);
         due("9: by itself into itself", x.rest(0, 0, 0), 0);
         dueCubes("9: by itself into itself", x, 0);
+        fill(x, 0, A | D, B | D, C | D);
+        fill(x, 1, A, B, C);
+        due("9: take from g", x.take(1, C), true);
+        due("9: what was taken does not count", x.rest(2, 0, 1), 1);
+        dueCubes("9: what was taken does not count", x, 2, C | D);
     }
 
     private static void common() {
@@ -356,6 +367,10 @@ public final class KernelDeskPromises {
         due("12: in two levels", x.kernels(1), 2);
         fill(x, 1, A | C, A | D, B | E, B | F);
         due("12: of one size", x.kernels(1), 3);
+        fill(x, 1, A | C, A | G, B | D, B | G);
+        due("12: that differ in the least cube", x.kernels(1), 4);
+        fill(x, 1, A | C, A | D, B | C, B | E);
+        due("12: that differ in the greatest cube", x.kernels(1), 4);
         fill(x, 1, G | 63, G);
         due("12: by the last letter", x.kernels(1), 1);
         for (int bad : NO_EXPRESSIONS) {
