@@ -264,7 +264,7 @@ public final class KernelDesk {
         }
     }
 
-    /** What is in the quotients by all cubes of g is in that by the first one: no others are tried. */
+    /** What is in the quotients by all cubes of g is in that by the first: no others are tried. */
     private void makeQuotient(int to, int f, int g) {
         int size = sizes[f];
         int divisor = cells[g * ROOM];
@@ -278,7 +278,7 @@ public final class KernelDesk {
         }
     }
 
-    /** This also keeps out every cube that has a letter of g: it is not in the quotient by that cube. */
+    /** This also keeps out a part that has a letter of g: no quotient has letters of its divisor. */
     private boolean isInAllQuotients(int part, int f, int g) {
         int size = sizes[g];
         for (int i = 0; i < size; i++) {
